@@ -557,6 +557,21 @@ public final class LineBoundsTest extends Bench {
         due(x.undo(), NOT);
         due(x.count(4), 21);
         due(x.count(6), 1);
+        for (int n = 0; n <= 9; n++) {
+            VerseCustoms y = told("ware 3 0");
+            days(y, n);
+            if (n % 2 == 0) due(tell(y, "none"), 1);
+            y.keep(0);
+            due(y.back(0), n % 2 == 0 ? 0 : n);
+            due(y.undo(), NOT);
+            int day = y.count(4);
+            days(y, 10);
+            for (int left = 7; left >= 0; left--) {
+                due(y.undo(), left);
+                due(y.count(4), day + left + 2);
+            }
+            due(y.undo(), NOT);
+        }
     }
 
     private static void undoWhat() {
