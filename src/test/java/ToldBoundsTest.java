@@ -395,6 +395,25 @@ public final class ToldBoundsTest extends Bench {
         due(x.rhyme(2, 1), 3);
         due(tell(x, "customs;customs"), 2);
         due(x.count(0), 0);
+        Calls most = y -> {
+            tell(y, "falling;" + repeat("false 1 1 5", 9));
+            tell(y, repeat("ware 1 1", 6) + ";slurring;slurring;slurring;port 1 5;port 3 4;uses 5 0;uses 0 0;uses 4 9");
+            y.secret(1);
+            due(y.canBe(1), 63);
+            due(y.laden(12, 0), 6);
+            due(y.year(), 6);
+            lay(y, 0);
+            due(y.altered(0, 0, 0), 0);
+            due(y.shortest(0, 0, 1), 9);
+            due(y.declare(0, 0), 1);
+            y.keep(1);
+            days(y, 3);
+        };
+        for (String text : new String[] {"none", "ware 5 0;strict", "plain 1 1 0;ware 1 0;strict", "free 2 0;ware 2 0;deaf"}) {
+            Calls laid = y -> { tell(y, text); y.put(0); y.put(0); y.secret(1); };
+            alike(y -> { most.on(y); write(y, "customs;"); laid.on(y); }, laid);
+            alike(y -> { most.on(y); tell(y, "customs"); laid.on(y); }, laid);
+        }
         due(faultOf("customs 1"), 8);
         due(faultOf("custom"), 0);
     }

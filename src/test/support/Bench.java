@@ -132,11 +132,23 @@ abstract class Bench {
         for (Look look : LOOKS) {
             VerseCustoms asked = made(before), spared = made(before);
             due(call.on(asked), due);
-            List<Integer> seen = new ArrayList<>(), unmoved = new ArrayList<>();
-            look.at(asked, seen);
-            look.at(spared, unmoved);
-            if (!seen.equals(unmoved)) fail("something changed: " + seen + ", it was " + unmoved);
+            compare(look, asked, spared);
         }
+    }
+
+    /** Behind these calls an object cannot be told from one behind those. */
+    static void alike(Calls these, Calls those) {
+        for (Look look : LOOKS) {
+            nth++;
+            compare(look, made(these), made(those));
+        }
+    }
+
+    private static void compare(Look look, VerseCustoms x, VerseCustoms y) {
+        List<Integer> seen = new ArrayList<>(), due = new ArrayList<>();
+        look.at(x, seen);
+        look.at(y, due);
+        if (!seen.equals(due)) fail("not alike: " + seen + ", due is " + due);
     }
 
     /** Likewise behind all that busy() does. */
@@ -165,7 +177,10 @@ abstract class Bench {
         }
         for (int i = -1; i < 3; i++) seen.add(x.altered(0, 0, i));
         seen.add(x.year());
-        seen.add(x.laden(5, 0));
+        for (int what = 0; what < 3; what++) for (int h : new int[] {5, 12, 72}) seen.add(x.laden(h, what));
+        seen.add(x.hidden(2));
+        seen.add(x.odds(0, 0, 2, 0));
+        seen.add(x.forAll(0, 1));
     }
 
     private static void lookAtDays(VerseCustoms x, List<Integer> seen) {
