@@ -24,6 +24,7 @@ public final class ToldBoundsTest extends Bench {
         clauses();
         emptyText();
         customsClause();
+        customsLeavesNothing();
         smallLetters();
         digits();
         blanks();
@@ -395,6 +396,12 @@ public final class ToldBoundsTest extends Bench {
         due(x.rhyme(2, 1), 3);
         due(tell(x, "customs;customs"), 2);
         due(x.count(0), 0);
+        due(faultOf("customs 1"), 8);
+        due(faultOf("custom"), 0);
+    }
+
+    private static void customsLeavesNothing() {
+        sentence("customs: all as at first; plain ..: a WORD more");
         Calls most = y -> {
             tell(y, "falling;" + repeat("false 1 1 5", 9));
             tell(y, repeat("ware 1 1", 6) + ";slurring;slurring;slurring;port 1 5;port 3 4;uses 5 0;uses 0 0;uses 4 9");
@@ -414,8 +421,6 @@ public final class ToldBoundsTest extends Bench {
             alike(y -> { most.on(y); write(y, "customs;"); laid.on(y); }, laid);
             alike(y -> { most.on(y); tell(y, "customs"); laid.on(y); }, laid);
         }
-        due(faultOf("customs 1"), 8);
-        due(faultOf("custom"), 0);
     }
 
     private static void smallLetters() {

@@ -136,6 +136,11 @@ abstract class Bench {
         }
     }
 
+    /** Likewise behind all that busy() does. */
+    static void still(Call call, int due) {
+        still(Bench::busy, call, due);
+    }
+
     /** Behind these calls an object cannot be told from one behind those. */
     static void alike(Calls these, Calls those) {
         for (Look look : LOOKS) {
@@ -149,11 +154,6 @@ abstract class Bench {
         look.at(x, seen);
         look.at(y, due);
         if (!seen.equals(due)) fail("not alike: " + seen + ", due is " + due);
-    }
-
-    /** Likewise behind all that busy() does. */
-    static void still(Call call, int due) {
-        still(Bench::busy, call, due);
     }
 
     private static void lookAtAll(VerseCustoms x, List<Integer> seen) {
